@@ -18,7 +18,7 @@ public final class TreeChanges {
     private static final int MOST_SIGNS = 19;
 
     private static final int ITEM_HEAD = 4;
-    // Each path of either tree has at most one item, and only those of one tree have bytes.
+    // Each path of either tree has at most one item, and only those of the newer tree have bytes.
     private static final int MOST_ITEMS = 2 * MOST_ENTRIES;
     private static final int MOST_LAYER =
             MOST_ITEMS * (ITEM_HEAD + MOST_SIGNS) + MOST_ENTRIES * MOST_BYTES;
@@ -28,6 +28,7 @@ public final class TreeChanges {
     private static final int LAST_WHAT = 31;
 
     private static final char SLASH = '/';
+    private static final int WORD_BYTES = 4;
 
     private final Tree tree0 = new Tree();
     private final Tree tree1 = new Tree();
@@ -169,12 +170,16 @@ public final class TreeChanges {
 
     private static int bytesIn(int word) {
         int found = 0;
-        for (int shift = 0; shift < 32; shift += 8) {
-            if (((word >>> shift) & 255) != 0) {
+        for (int k = 0; k < WORD_BYTES; k++) {
+            if (byteOf(word, k) != 0) {
                 found++;
             }
         }
         return found;
+    }
+
+    private static int byteOf(int word, int k) {
+        return (word >>> 8 * k) & 255;
     }
 
     /** The signs of a path; without signs it is none. */
@@ -214,8 +219,8 @@ public final class TreeChanges {
         }
 
         private void appendWord(int word) {
-            for (int shift = 0; shift < 32; shift += 8) {
-                int sign = (word >>> shift) & 255;
+            for (int k = 0; k < WORD_BYTES; k++) {
+                int sign = byteOf(word, k);
                 if (sign != 0) {
                     append(sign);
                 }
@@ -317,8 +322,8 @@ public final class TreeChanges {
         }
 
         void appendWord(int word) {
-            for (int shift = 0; shift < 32; shift += 8) {
-                int value = (word >>> shift) & 255;
+            for (int k = 0; k < WORD_BYTES; k++) {
+                int value = byteOf(word, k);
                 if (value != 0) {
                     append(value);
                 }
@@ -585,7 +590,7 @@ public final class TreeChanges {
             int emptied = NONE;
             int i = 0;
             int j = 0;
-            while (i < older.count || j < newer.count) {
+            for (int step = 0; step < MOST_ITEMS && (i < older.count || j < newer.count); step++) {
                 int order = orderOfRows(older, i, newer, j);
                 if (order > 0) {
                     writeItem(newer.rows[j].kind, newer.rows[j]);
@@ -639,10 +644,10 @@ public final class TreeChanges {
         }
 
         private static boolean isEmptied(Tree older, int i, Tree newer, int j) {
-            Path upper = older.rows[i].path;
             if (older.rows[i].kind != DIRECTORY || newer.rows[j].kind != DIRECTORY) {
                 return false;
             }
+            Path upper = older.rows[i].path;
             int rightBelow = 0;
             for (int k = i + 1; k < older.count && older.rows[k].path.isBelow(upper); k++) {
                 Path path = older.rows[k].path;

@@ -299,6 +299,9 @@ public final class PromisesTest {
         due("16, zeros left out", outcome(() -> x.add(0, 'p' << 16)), DONE);
         due("none more", add(x, 0, "a", ""), DONE);
         due("one more", add(x, 0, "a", "q"), UOE);
+        for (int bytes : new int[] {1, 0x80, 0x100, 0x8000, 0x800000, 0x80000000, -1}) {
+            due("more by " + bytes, outcome(() -> x.add(0, bytes)), UOE);
+        }
         due("16 bytes", x.entry(0, 0, 2), 16);
         due("the last", x.entry(0, 0, 31), (int) 'p');
         due("a directory", add(x, 0, "d", "1"), ISE);
@@ -347,6 +350,12 @@ public final class PromisesTest {
         due("a file", move(x, 0, "ab", "0/b"), DONE);
         due("0/b", list(x, 0), "0 0/b=3 0/c=1 k k/a k/a/d=2");
         due("the other tree", list(x, 1), "a");
+        TreeChanges y = pair("a=1 b=2", "");
+        due("a behind b", move(y, 0, "a", "c"), DONE);
+        due("b c", list(y, 0), "b=2 c=1");
+        TreeChanges z = pair("d " + numbered("d/", 0, 38, "=1") + " e", "");
+        due("in a full tree", move(z, 0, "d", "e/f"), DONE);
+        due("e/f", list(z, 0), "e e/f " + numbered("e/f/", 0, 38, "=1"));
     }
 
     private static void wrongMoves() {
@@ -494,6 +503,48 @@ public final class PromisesTest {
         due("can't be applied to the newer one", outcome(() -> x.apply(1)), ISE);
         due("can be to the older one", outcome(() -> x.apply(0)), DONE);
         due("same", x.same(), true);
+    }
+
+    /** Forty entries in each tree, with long paths and, in tree 1, full files. */
+    private static TreeChanges withLongestPaths() {
+        TreeChanges x = pair("a a/b a/b/c a/b/c/mmmm=", "");
+        x.copy(0, 1);
+        for (int i = 10; i < 46; i++) {
+            file(x, 0, "a/b/c/00" + i, "1");
+            file(x, 1, "a/b/c/zz" + i, "abcd");
+            x.add(1, word("efgh", 0));
+            x.add(1, word("ijkl", 0));
+            x.add(1, word("mno\u00ff", 0));
+        }
+        for (int tree = 0; tree < 2; tree++) {
+            move(x, tree, "a/b/c", "a/b/cccc");
+            move(x, tree, "a/b", "a/bbbb");
+            move(x, tree, "a", "aaaa");
+        }
+        return x;
+    }
+
+    private static void longestLayer() {
+        TreeChanges x = withLongestPaths();
+        due("entries", x.entries(0) + x.entries(1), 80);
+        int length = x.changes(0);
+        due("length", length, 36 * (4 + 19) + 36 * (4 + 19 + 16));
+        due("the first kind", x.layer(0), 3);
+        due("the last kind", x.layer(length - 39), 2);
+        due("the last byte", x.layer(length - 1), 255);
+        due("behind it", answer(() -> x.layer(length)), IOOBE);
+        due("applied", outcome(() -> x.apply(0)), DONE);
+        due("same", x.same(), true);
+    }
+
+    private static void emptiedFullTree() {
+        TreeChanges x = pair("d " + numbered("d/", 0, 39, "=1"), "d");
+        due("EMPTIED alone", changes(x, 0), "<4><1>d<0><0>");
+        x.apply(0);
+        due("d alone", list(x, 0), "d");
+        TreeChanges y = pair(numbered("d", 0, 40, ""), numbered("d", 0, 40, ""));
+        due("no changes of full trees", changes(y, 0), "");
+        due("same full trees", y.same(), true);
     }
 
     private static void layerBytes() {
@@ -671,6 +722,8 @@ public final class PromisesTest {
         copying();
         changing();
         biggestLayer();
+        longestLayer();
+        emptiedFullTree();
         layerBytes();
         applying();
         applyingElsewhere();

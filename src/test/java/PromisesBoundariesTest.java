@@ -174,6 +174,8 @@ public final class PromisesBoundariesTest extends Trials {
     private static void promise7() {
         sentence("7: What is there comes, with all below it, to another path", () -> {
             State.of("a=1", "").moved(0, "a", "b").has(0, "b=1");
+            State.of("a=1 b=2", "").moved(0, "a", "c").has(0, "b=2 c=1");
+            State.of("a=1 b=2", "").moved(0, "b", "0").has(0, "0=2 a=1");
             State.of("a a/b a/b/c a/b/c/d=1 a0=2", "a").moved(0, "a", "z")
                     .has(0, "a0=2 z z/b z/b/c z/b/c/d=1");
             State.of("d " + numbered("d/", 0, 38, "=1") + " e", "").moved(0, "d", "e/d")
@@ -221,6 +223,8 @@ public final class PromisesBoundariesTest extends Trials {
         sentence("7: IllegalStateException if a path would have more than four names", () -> {
             State state = State.of("a a/b a/b/c=1 k k/l k/l/m", "");
             state.at("a").refuses(ISE, x -> x.move(0, word("k/l/", 0), 'a', 0));
+            state.grown(0, "0").at("a").refuses(ISE, x -> x.move(0, word("k/l/", 0), 'a', 0));
+            state.grown(0, "a/b/d a/c").at("a").refuses(ISE, x -> x.move(0, word("k/l/", 0), 'a', 0));
             state.at("a").refuses(ISE, x -> x.move(0, word("k/l/", 0), word("m/a", 0), 0));
             state.at("a/b").refuses(ISE, x -> x.move(0, word("k/l/", 0), word("m/b", 0), 0));
             state.moved(0, "a", "k/a").has(0, "k k/a k/a/b k/a/b/c=1 k/l k/l/m");
@@ -258,6 +262,20 @@ public final class PromisesBoundariesTest extends Trials {
         });
     }
 
+    /** Files that go and files that come, but for one that stays, so that their directory isn't emptied. */
+    private static State longestLayer() {
+        String inBoth = "a a/b a/b/c a/b/c/mmmm=1";
+        StringBuilder come = new StringBuilder(inBoth);
+        for (int i = 10; i < 20; i++) {
+            come.append(" a/b/c/zz").append(i).append('=').append(SIXTEEN);
+        }
+        State state = State.of(inBoth + " " + numbered("a/b/c/00", 0, 36, "="), come.toString());
+        for (int tree = 0; tree < 2; tree++) {
+            state = state.moved(tree, "a/b/c", "a/b/cccc").moved(tree, "a/b", "a/bbbb").moved(tree, "a", "aaaa");
+        }
+        return state;
+    }
+
     private static void promise9() {
         sentence("9: The layer becomes the changes from a tree to the other one", () -> {
             State state = State.of("a=1", "b=2").does(x -> x.changes(0));
@@ -273,6 +291,11 @@ public final class PromisesBoundariesTest extends Trials {
             State.of("", FULL).answers(38 * 8 + 21 + 5, x -> x.changes(0));
             State.of(FULL, "").answers(38 * 7 + 5 + 5, x -> x.changes(0));
             State.of(FULL, FULL).answers(0, x -> x.changes(1));
+        });
+        sentence("9: how many bytes, where paths have nineteen signs and files sixteen bytes", () -> {
+            State longest = longestLayer();
+            longest.answers(36 * (4 + 19) + 10 * (4 + 19 + 16), x -> x.changes(0));
+            longest.does(x -> x.changes(0)).does(x -> x.apply(0)).answers(true, x -> x.same());
         });
         sentence("9: IllegalArgumentException", () -> {
             for (int tree : NO_TREES) {

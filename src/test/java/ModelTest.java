@@ -1,270 +1,13 @@
 import java.util.ArrayList;
 import java.util.Arrays;
-import java.util.List;
 import java.util.TreeMap;
-import java.util.TreeSet;
 
 /** Many runs of calls, each answer beside that of a plain model written from the document's words. */
-public final class ModelTest {
+public final class ModelTest extends Trials {
     private static final int RUNS = 6000;
     private static final int CALLS = 512;
     private static final String[] CALLS_TOLD = {"path", "directory", "file", "add", "remove", "move", "copy",
         "changes", "layer", "apply", "same", "entries", "entry"};
-
-    private static final TreeMap<String, Integer> seen = new TreeMap<>();
-
-    private static void count(String edge, boolean met) {
-        if (met) {
-            seen.merge(edge, 1, Integer::sum);
-        }
-    }
-
-    /** A text stands for bytes or signs 0 to 255; null stands for a directory. */
-    private static final class Model {
-        private List<TreeMap<String, String>> trees =
-                new ArrayList<>(List.of(new TreeMap<>(), new TreeMap<>()));
-        private String path = null;
-        private String layer = "";
-        private List<String[]> items = new ArrayList<>();
-
-        static String textOf(int... words) {
-            StringBuilder text = new StringBuilder();
-            for (int word : words) {
-                for (int k = 0; k < 4; k++) {
-                    char c = (char) (word >>> 8 * k & 255);
-                    text.append(c == 0 ? "" : String.valueOf(c));
-                }
-            }
-            return text.toString();
-        }
-
-        static boolean isPath(String text) {
-            return text.matches("[a-z0-9]{1,4}(/[a-z0-9]{1,4}){0,3}");
-        }
-
-        static String shorter(String path) {
-            return path.contains("/") ? path.substring(0, path.lastIndexOf('/')) : null;
-        }
-
-        static boolean isDirectory(TreeMap<String, String> tree, String path) {
-            return path == null || tree.containsKey(path) && tree.get(path) == null;
-        }
-
-        static boolean isFile(TreeMap<String, String> tree, String path) {
-            return tree.get(path) != null;
-        }
-
-        static void dropBelow(TreeMap<String, String> tree, String path) {
-            tree.keySet().removeIf(p -> p.startsWith(path + "/"));
-        }
-
-        static int names(String path) {
-            return path.split("/").length;
-        }
-
-        TreeMap<String, String> tree(int tree) {
-            if (tree < 0 || tree > 1) {
-                throw new IllegalArgumentException();
-            }
-            return trees.get(tree);
-        }
-
-        static void stateIf(boolean wrong) {
-            if (wrong) {
-                throw new IllegalStateException();
-            }
-        }
-
-        static void tooMuchIf(boolean wrong) {
-            if (wrong) {
-                throw new UnsupportedOperationException();
-            }
-        }
-
-        int call(String name, int[] v) {
-            switch (name) {
-                case "path": return tellPath(v);
-                case "directory": return makeDirectory(v);
-                case "file": return makeFile(v);
-                case "add": return addBytes(v);
-                case "remove": return takeAway(v);
-                case "move": return bring(v);
-                case "copy":
-                    TreeMap<String, String> like = new TreeMap<>(tree(v[0]));
-                    tree(v[1]);
-                    trees.set(v[1], like);
-                    return 0;
-                case "changes": return tellChanges(v);
-                case "layer":
-                    if (v[0] < 0 || v[0] >= layer.length()) {
-                        throw new IndexOutOfBoundsException();
-                    }
-                    return layer.charAt(v[0]);
-                case "apply": return applyLayer(v);
-                case "same": return trees.get(0).equals(trees.get(1)) ? 1 : 0;
-                case "entries": return tree(v[0]).size();
-                default: return tellEntry(v);
-            }
-        }
-
-        int tellPath(int[] v) {
-            String text = textOf(v[0], v[1], v[2]);
-            path = isPath(text) ? text : null;
-            return path == null ? 0 : 1;
-        }
-
-        int makeDirectory(int[] v) {
-            TreeMap<String, String> tree = tree(v[0]);
-            stateIf(path == null || tree.containsKey(path) || !isDirectory(tree, shorter(path)));
-            tooMuchIf(tree.size() == 40);
-            tree.put(path, null);
-            return 0;
-        }
-
-        int makeFile(int[] v) {
-            TreeMap<String, String> tree = tree(v[0]);
-            stateIf(path == null || isDirectory(tree, path) || !isDirectory(tree, shorter(path)));
-            tooMuchIf(tree.size() == 40 && !tree.containsKey(path));
-            tree.put(path, textOf(v[1]));
-            return 0;
-        }
-
-        int addBytes(int[] v) {
-            TreeMap<String, String> tree = tree(v[0]);
-            stateIf(path == null || !isFile(tree, path));
-            String bytes = tree.get(path) + textOf(v[1]);
-            tooMuchIf(bytes.length() > 16);
-            tree.put(path, bytes);
-            return 0;
-        }
-
-        int takeAway(int[] v) {
-            TreeMap<String, String> tree = tree(v[0]);
-            stateIf(path == null || !tree.containsKey(path));
-            tree.remove(path);
-            dropBelow(tree, path);
-            return 0;
-        }
-
-        int bring(int[] v) {
-            TreeMap<String, String> tree = tree(v[0]);
-            String to = textOf(v[1], v[2], v[3]);
-            if (!isPath(to)) {
-                throw new IllegalArgumentException();
-            }
-            stateIf(path == null || !tree.containsKey(path) || tree.containsKey(to)
-                    || to.startsWith(path + "/") || !isDirectory(tree, shorter(to)));
-            TreeMap<String, String> moved = new TreeMap<>();
-            for (String p : tree.keySet()) {
-                boolean comes = p.equals(path) || p.startsWith(path + "/");
-                String now = comes ? to + p.substring(path.length()) : p;
-                stateIf(names(now) > 4);
-                moved.put(now, tree.get(p));
-                count("signs over twelve", now.length() > 12);
-                count("signs up to nineteen", now.length() == 19);
-            }
-            trees.set(v[0], moved);
-            return 0;
-        }
-
-        static boolean isEmptied(TreeMap<String, String> a, TreeMap<String, String> b, String path) {
-            if (path == null || !a.containsKey(path) || !isDirectory(a, path) || !isDirectory(b, path)) {
-                return false;
-            }
-            List<String> below = new ArrayList<>();
-            for (String p : a.keySet()) {
-                if (path.equals(shorter(p))) {
-                    below.add(p);
-                }
-            }
-            return below.size() >= 2 && below.stream().noneMatch(b::containsKey);
-        }
-
-        /** 0 for no item. */
-        static int itemKind(TreeMap<String, String> a, TreeMap<String, String> b, String path) {
-            if (!b.containsKey(path)) {
-                boolean gone = isDirectory(b, shorter(path)) && !isEmptied(a, b, shorter(path));
-                return gone ? 3 : 0;
-            }
-            if (!a.containsKey(path)) {
-                return isFile(b, path) ? 2 : 1;
-            }
-            if (isFile(b, path)) {
-                return isFile(a, path) && a.get(path).equals(b.get(path)) ? 0 : 2;
-            }
-            return isFile(a, path) ? 1 : isEmptied(a, b, path) ? 4 : 0;
-        }
-
-        int tellChanges(int[] v) {
-            TreeMap<String, String> a = tree(v[0]);
-            TreeMap<String, String> b = tree(1 - v[0]);
-            TreeSet<String> all = new TreeSet<>(a.keySet());
-            all.addAll(b.keySet());
-            items.clear();
-            StringBuilder bytes = new StringBuilder();
-            for (String p : all) {
-                int kind = itemKind(a, b, p);
-                count("item " + kind, true);
-                if (kind != 0) {
-                    String content = kind == 2 ? b.get(p) : "";
-                    items.add(new String[] {String.valueOf(kind), p, content});
-                    bytes.append((char) kind).append((char) p.length()).append(p);
-                    bytes.append((char) content.length()).append((char) 0).append(content);
-                }
-            }
-            layer = bytes.toString();
-            return layer.length();
-        }
-
-        int applyLayer(int[] v) {
-            TreeMap<String, String> tree = new TreeMap<>(tree(v[0]));
-            for (String[] item : items) {
-                String p = item[1];
-                switch (item[0]) {
-                    case "1":
-                    case "2":
-                        stateIf(!isDirectory(tree, shorter(p)));
-                        count("item as 41st", tree.size() == 40 && !tree.containsKey(p));
-                        count("item in a full tree", tree.size() == 40 && tree.containsKey(p));
-                        stateIf(tree.size() == 40 && !tree.containsKey(p));
-                        tree.put(p, item[0].equals("1") ? null : item[2]);
-                        if (item[0].equals("2")) {
-                            dropBelow(tree, p);
-                        }
-                        break;
-                    case "4":
-                        stateIf(!isDirectory(tree, p));
-                        dropBelow(tree, p);
-                        break;
-                    default:
-                        stateIf(!tree.containsKey(p));
-                        tree.remove(p);
-                        dropBelow(tree, p);
-                        break;
-                }
-            }
-            trees.set(v[0], tree);
-            return 0;
-        }
-
-        int tellEntry(int[] v) {
-            TreeMap<String, String> tree = tree(v[0]);
-            if (v[2] < 0 || v[2] > 31) {
-                throw new IllegalArgumentException();
-            }
-            if (v[1] < 0 || v[1] >= tree.size()) {
-                throw new IndexOutOfBoundsException();
-            }
-            String p = new ArrayList<>(tree.keySet()).get(v[1]);
-            String bytes = tree.get(p) == null ? "" : tree.get(p);
-            if (v[2] < 3) {
-                return v[2] == 0 ? (tree.get(p) == null ? 1 : 2) : v[2] == 1 ? names(p) : bytes.length();
-            }
-            String text = v[2] < 16 ? p : bytes;
-            int k = v[2] < 16 ? v[2] - 3 : v[2] - 16;
-            return k < text.length() ? text.charAt(k) : -1;
-        }
-    }
 
     /** Numbers from a seed alone, so that every run of the test is the same. */
     private static final class Numbers {
@@ -281,33 +24,6 @@ public final class ModelTest {
 
         boolean once(int in) {
             return below(in) == 0;
-        }
-    }
-
-    private static int callReal(TreeChanges x, String name, int[] v) {
-        switch (name) {
-            case "path": return x.path(v[0], v[1], v[2]) ? 1 : 0;
-            case "directory": x.directory(v[0]); return 0;
-            case "file": x.file(v[0], v[1]); return 0;
-            case "add": x.add(v[0], v[1]); return 0;
-            case "remove": x.remove(v[0]); return 0;
-            case "move": x.move(v[0], v[1], v[2], v[3]); return 0;
-            case "copy": x.copy(v[0], v[1]); return 0;
-            case "changes": return x.changes(v[0]);
-            case "layer": return x.layer(v[0]);
-            case "apply": x.apply(v[0]); return 0;
-            case "same": return x.same() ? 1 : 0;
-            case "entries": return x.entries(v[0]);
-            default: return x.entry(v[0], v[1], v[2]);
-        }
-    }
-
-    private static String answerOf(TreeChanges x, Model model, String name, int[] v) {
-        try {
-            return String.valueOf(x != null ? callReal(x, name, v) : model.call(name, v));
-        } catch (IllegalArgumentException | IllegalStateException | UnsupportedOperationException
-                | IndexOutOfBoundsException e) {
-            return "throws." + e.getClass().getSimpleName();
         }
     }
 
@@ -347,16 +63,16 @@ public final class ModelTest {
             }
             start = start + "/";
         }
-        StringBuilder path = new StringBuilder(start).append(randomName(numbers, manner));
+        StringBuilder path = new StringBuilder(start).append(randomName(numbers, manner, 2));
         if (numbers.once(40)) {
             path.insert(numbers.below(path.length() + 1), (char) numbers.below(256));
         }
         return path.toString();
     }
 
-    private static String randomName(Numbers numbers, Manner manner) {
+    private static String randomName(Numbers numbers, Manner manner, int shortOnceIn) {
         StringBuilder name = new StringBuilder();
-        int length = numbers.once(2) ? 1 : manner.nameLength;
+        int length = numbers.once(shortOnceIn) ? 1 : manner.nameLength;
         for (int k = 0; k < length; k++) {
             name.append("ab0z19cdefghijklmnopqrstuvwxy2345678".charAt(numbers.below(manner.letters)));
         }
@@ -365,11 +81,11 @@ public final class ModelTest {
 
     /** Often another name in the same directory, which makes paths longer and shorter. */
     private static String movePath(Numbers numbers, Manner manner, Model model) {
-        if (model.path == null || numbers.once(2)) {
+        if (model.path() == null || numbers.once(2)) {
             return randomPath(numbers, manner, model);
         }
-        String shorter = Model.shorter(model.path);
-        return (shorter == null ? "" : shorter + "/") + randomName(numbers, manner);
+        String shorter = Model.shorter(model.path());
+        return (shorter == null ? "" : shorter + "/") + randomName(numbers, manner, 8);
     }
 
     private static int[] pathWords(Numbers numbers, String path) {
@@ -408,7 +124,7 @@ public final class ModelTest {
                 int[] words = pathWords(numbers, movePath(numbers, manner, model));
                 return new int[] {tree, words[0], words[1], words[2]};
             case "copy": return new int[] {tree, treeNumber(numbers)};
-            case "layer": return new int[] {numbers.below(model.layer.length() + 3) - 1};
+            case "layer": return new int[] {numbers.below(model.layer().length() + 3) - 1};
             case "same": return new int[0];
             case "entry":
                 int size = model.trees.get(tree & 1).size();
@@ -428,25 +144,28 @@ public final class ModelTest {
         return "same";
     }
 
+    /** Any int at all in the place of one argument. */
+    private static void makeWild(int[] v, Numbers numbers) {
+        if (v.length > 0) {
+            v[numbers.below(v.length)] = numbers.below(1 << 16) << 16 | numbers.below(1 << 16);
+        }
+    }
+
     private static boolean runIsRight(int run) {
         Numbers numbers = new Numbers(run);
         Manner manner = MANNERS[run % MANNERS.length];
-        TreeChanges x = new TreeChanges();
-        Model model = new Model();
-        for (int i = 0; i < CALLS; i++) {
+        Twin twin = new Twin("run " + run);
+        for (int i = 0; i < CALLS && twin.isAlike(); i++) {
             String name = i >= manner.fill ? chooseCall(numbers, manner)
                     : i % 2 == 0 ? "path" : numbers.once(2) ? "file" : "directory";
-            int[] v = argumentsOf(name, numbers, manner, model);
-            String got = answerOf(x, null, name, v);
-            String want = answerOf(null, model, name, v);
-            count(name + " " + (want.startsWith("throws") ? want : "answers"), true);
-            if (!got.equals(want)) {
-                System.out.println("run " + run + ", call " + i + ": " + name + Arrays.toString(v)
-                        + " answered " + got + ", due is " + want);
-                return false;
+            int[] v = argumentsOf(name, numbers, manner, twin.model);
+            if (numbers.once(100)) {
+                makeWild(v, numbers);
             }
+            String due = twin.call(name, v);
+            Model.count(name + " " + (due.startsWith("throws") ? due : "answers"), true);
         }
-        return true;
+        return twin.isAlike();
     }
 
     // Without these the runs would miss edges that they are meant to reach.
@@ -465,17 +184,11 @@ public final class ModelTest {
             wrong += runIsRight(run) ? 0 : 1;
         }
         for (String edge : MUST_BE_SEEN) {
-            if (wrong == 0 && seen.getOrDefault(edge, 0) < 30) {
-                wrong++;
-                System.out.println("hardly seen: " + edge);
-            }
+            due("often enough: " + edge, wrong > 0 || Model.seen.getOrDefault(edge, 0) >= 30, true);
         }
         if (args.length > 0) {
-            System.out.println(seen);
+            System.out.println(Model.seen);
         }
-        System.out.println(wrong == 0 ? "all answers are as due" : wrong + " runs are not as due");
-        if (wrong != 0) {
-            System.exit(1);
-        }
+        finish();
     }
 }
